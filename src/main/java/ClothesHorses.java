@@ -56,6 +56,9 @@ public final class ClothesHorses {
     /* Five HORSES have ten sets of two, ten of three and five of four. */
     private static final int MOST_SETS = 10;
 
+    /* No weight and no number of UPSETS comes near it. */
+    private static final int MORE_THAN_ANY = 1000000;
+
     /* A TOKEN puts two numbers into a law's code at most. */
     private static final int MOST_CODE = 2 * MOST_BYTES;
     /* Each of the 8 that may be open leaves five values waiting at most, and the law itself three. */
@@ -266,15 +269,15 @@ public final class ClothesHorses {
             return OTHERS;
         }
         for (int clause = 0; clause < script.clauses(); clause++) {
-            boolean can;
+            /* HOURS pass from here, not from isDone: no chain of calls is longer than theirs. */
             if (script.kindOf(clause) == HOUR) {
                 int n = script.numberOf(clause, 0);
-                can = n <= LAST_HOUR - green.hour;
-                passHours(Math.min(n, LAST_HOUR - green.hour));
-            } else {
-                can = isDone(script, clause);
-            }
-            if (!can) {
+                int can = Math.min(n, LAST_HOUR - green.hour);
+                passHours(can);
+                if (can < n) {
+                    return clause;
+                }
+            } else if (!isDone(script, clause)) {
                 return clause;
             }
         }
@@ -1777,7 +1780,7 @@ public final class ClothesHorses {
         void find(Told told, Green green, int n) {
             horses = told.horses;
             pieces = n;
-            least = Integer.MAX_VALUE;
+            least = MORE_THAN_ANY;
             Arrays.fill(loads, 0);
             for (int piece = 0; piece < n; piece++) {
                 burdens[piece] = told.weights[piece] + green.wet[piece];
@@ -1816,7 +1819,7 @@ public final class ClothesHorses {
 
         void find(int[][] beaten, int n) {
             horses = n;
-            least = Integer.MAX_VALUE;
+            least = MORE_THAN_ANY;
             place(beaten, 0, 0, 0);
         }
 
