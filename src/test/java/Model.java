@@ -776,7 +776,8 @@ final class Model {
         return w.seen.size();
     }
 
-    boolean couldBe(int horse, int t, int sock) {
+    /** The cells that a horse is in behind 0 .. 12 hours, with a sock from the hour behind t others on. */
+    int[] cells(int horse, int t, int sock) {
         World f = w.copy(false);
         f.horses.get(horse).cell = 0;
         int[] cells = new int[13];
@@ -786,6 +787,11 @@ final class Model {
             h.cell = Math.min(11, h.cell + f.paces(f.law(), horse, i > t ? sock : 0));
             cells[i] = h.cell;
         }
+        return cells;
+    }
+
+    boolean couldBe(int horse, int t, int sock) {
+        int[] cells = cells(horse, t, sock);
         return w.seen.stream().allMatch(s -> cells[s[0]] == s[1]);
     }
 

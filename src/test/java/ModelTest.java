@@ -34,11 +34,51 @@ public final class ModelTest {
             }
             answers += test.run.size();
         }
+        for (int seed = from; seed < from + 10 * runs; seed++) {
+            ModelTest test = new ModelTest(seed);
+            test.read(seed % 3 == 0 ? test.texts.crowded() : test.texts.any());
+            test.stopIfWrong();
+            if (seed % 5 == 0) {
+                test.nobble();
+            }
+        }
         System.out.println("ModelTest: " + answers + " answers as the model's");
+    }
+
+    private void stopIfWrong() {
+        if (got != want) {
+            System.out.println(call + " -> " + got + ", the model: " + want);
+            System.exit(1);
+        }
+    }
+
+    /** A horse whose paces are near a change, seen as it goes with a sock. */
+    private void nobble() {
+        is("horse", real.horse(6), model.horse(6));
+        int pieces = 1 + random.nextInt(3);
+        for (int i = 0; i < pieces; i++) {
+            int weight = 3 + random.nextInt(7);
+            int wet = random.nextInt(12 / pieces);
+            is("piece", real.piece(0, weight, wet), model.piece(0, weight, wet));
+            is("peg", real.peg(i, 0), model.pegs(i, 0, true));
+        }
+        read(new String[] {"paces 3-load/9;", "dries load/9;paces load/8;", "paces tenth(load+cell);", "start;"}[random.nextInt(4)]);
+        int[] cells = model.cells(0, random.nextInt(6), random.nextInt(6));
+        for (int i = 0; i <= random.nextInt(4); i++) {
+            int n = 1 + random.nextInt(12);
+            is("see(" + n + ", " + cells[n] + ")", real.see(n, cells[n]), model.see(n, cells[n]));
+        }
+        for (int what = 0; what < 3; what++) {
+            is("nobbled(0, " + what + ")", real.nobbled(0, what), model.nobbled(0, what));
+            stopIfWrong();
+        }
     }
 
     private boolean sameAnswers() {
         int mood = random.nextInt(4);
+        if (random.nextInt(100) == 0) {
+            comeNearTheLastHour();
+        }
         for (int i = 0; i < CALLS; i++) {
             ask(mood, i);
             run.add(call + " -> " + got + (got == want ? "" : ", the model: " + want));
@@ -47,6 +87,22 @@ public final class ModelTest {
             }
         }
         return true;
+    }
+
+    private void comeNearTheLastHour() {
+        String hours = "hour 60;".repeat(24);
+        Checks.text(real, hours);
+        model.tape = hours.getBytes(java.nio.charset.StandardCharsets.ISO_8859_1);
+        model.text();
+        for (int i = 0; i < 6; i++) {
+            real.played(0);
+            model.played(0);
+        }
+        while (model.is(0) < 9880) {
+            int n = 1 + random.nextInt(60);
+            real.hour(n);
+            model.hour(n);
+        }
     }
 
     /** One of the low .. high, now and then one beside them. */
@@ -216,8 +272,10 @@ public final class ModelTest {
         if (model.about(0) == 0 || random.nextInt(4) == 0) {
             return some(0, 11);
         }
-        int paces = model.of(random.nextInt(model.about(0)), 5);
-        return Math.max(0, Math.min(11, n * paces - random.nextInt(3)));
+        /* One way for all that is seen in a run, so that it may agree. */
+        int way = run.isEmpty() ? 0 : run.get(0).length();
+        int[] cells = model.cells(0, way % 3, way % 6);
+        return cells[Math.max(0, Math.min(12, n))];
     }
 
     private int likelyDries(int piece) {
@@ -391,7 +449,7 @@ public final class ModelTest {
                 break;
             case 12:
             case 13:
-                a = aHorse();
+                a = random.nextBoolean() ? 0 : aHorse();
                 b = some(0, 2);
                 is("nobbled(" + a + ", " + b + ")", real.nobbled(a, b), model.nobbled(a, b));
                 break;

@@ -31,6 +31,7 @@ public final class PromisesTest {
         is();
         books();
         fullBooks();
+        oddBooks();
         foretold();
         winners();
         packs();
@@ -438,6 +439,21 @@ public final class PromisesTest {
         paces("if 1<2 and 2<1 then 1 else 2 end", 2);
         paces("if not 2<1 and 1<2 then 1 else 2 end", 1);
         paces("if not 1<2 or 1<2 then 1 else 2 end", 1);
+        for (String so : new String[] {"1<2", "2<=2", "2>1", "2>=2", "2=2", "1#2", "not 2<1"}) {
+            paces("if " + so + " and 1<2 then 1 else 2 end", 1);
+            paces("if 1<2 and " + so + " then 1 else 2 end", 1);
+            paces("if " + so + " or 2<1 then 1 else 2 end", 1);
+            paces("if not " + so + " or 2<1 then 1 else 2 end", 2);
+        }
+        paces("1" + "-1+1".repeat(72), 1);
+        paces("8" + "/2*2".repeat(72) + "-6", 2);
+        paces("if 2<1" + " or 2<1".repeat(30) + " then 1 else 2 end", 2);
+        paces("if 1<2" + " and 1<2".repeat(30) + " then 1 else 2 end", 1);
+        String deep = "3+1*-1";
+        for (int i = 0; i < 7; i++) {
+            deep = "1+1*if 2<1or 1<2and 1<" + deep + " then 1else 2end";
+        }
+        paces(deep, 2);
         paces("if 1<2 then if 2<1 then 1 else 3 end else 2 end", 3);
         paces("if 2<1 then 1 else if 1<2 then 3 else 2 end end", 3);
         paces("1+if 1<2 then 1 else 2 end*2", 3);
@@ -1014,6 +1030,31 @@ public final class PromisesTest {
         due("book(0, 0)", x.book(0, 0), 5);
     }
 
+    private static void oddBooks() {
+        // Two come in a race, three in the first: RANKS in the book are 1 2 3 1 2 1 2 ..
+        ClothesHorses x = with(1, 6, 6);
+        x.hour(6);
+        for (int race = 1; race < 14; race++) {
+            x.start();
+            x.hour(4);
+        }
+        due("book(-1, 0)", x.book(-1, 0), 29);
+        due("book(2, 2)", x.book(2, 2), 3);
+        x.start();
+        x.hour(4);
+        due("book(-1, 0)", x.book(-1, 0), 30);
+        for (int i = 0; i < 30; i++) {
+            due("rank " + i, x.book(i, 2), i == 0 ? 2 : i == 1 ? 3 : 1 + i % 2);
+            due("horse " + i, x.book(i, 1), i == 0 ? 2 : i == 1 ? 0 : 1 + i % 2);
+            due("hour " + i, x.book(i, 0), i == 0 ? 3 : i == 1 ? 5 : 5 + i / 2 * 4);
+        }
+        due("undo()", x.undo(), 29);
+        due("book(-1, 0)", x.book(-1, 0), 29);
+        for (int i = 0; i < 29; i++) {
+            due("rank " + i, x.book(i, 2), i < 3 ? 1 + i : 1 + (i + 1) % 2);
+        }
+    }
+
     // Promise 22
     private static void foretold() {
         ClothesHorses x = with(9, 1);
@@ -1151,6 +1192,22 @@ public final class PromisesTest {
         due("sure(12, 2)", x.sure(12, 2), 72);
         due("more than 500", x.sure(13, NONE), NONE);
         due("of one horse none", x.sure(13, 0), NONE);
+        x = with(1, 1, 1, 1);
+        int[] odds = {2, 4, 9, 10};
+        int[] stakes = {260, 130, 58, 52};
+        for (int i = 0; i < 4; i++) {
+            x.odds(i, odds[i]);
+        }
+        due("just 500", x.sure(20, NONE), 500);
+        for (int i = 0; i < 4; i++) {
+            due("that bring 520: sure(20, " + i + ")", x.sure(20, i), stakes[i]);
+        }
+        x = with(1, 1, 1, 1, 1);
+        int[] more = {2, 5, 6, 14, 18};
+        for (int i = 0; i < 5; i++) {
+            x.odds(i, more[i]);
+        }
+        due("it would be 501", x.sure(3, NONE), NONE);
     }
 
     // Promises 27 and 28
@@ -1440,6 +1497,19 @@ public final class PromisesTest {
         x.peg(1, 0);
         x.peg(2, 0);
         due("all three at once", x.dry(0), 20);
+        // One behind the other: the last piece first, the first one last.
+        for (int wet = 0; wet <= 1; wet++) {
+            x = ruledBy("dries if weight=9 or weight=1 and load<=75 or weight=2 and load<=55 or weight=3 and load<=35"
+                + " then 1 else 0 end;", 1);
+            x.piece(0, 3, 20);
+            x.piece(0, 2, 20);
+            x.piece(0, 1, 20);
+            x.piece(0, 9, wet);
+            for (int i = 0; i < 4; i++) {
+                x.peg(i, 0);
+            }
+            due(60 + wet + " hours", x.dry(0), wet == 0 ? 60 : NONE);
+        }
         // SUN and HOUR are as now.
         x = ruledBy("dries hour;paces 0;sheds 0;", 1);
         x.piece(0, 1, 20);

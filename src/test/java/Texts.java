@@ -50,8 +50,10 @@ final class Texts {
         for (int i = 0; i < changes; i++) {
             int at = random.nextInt(tokens.size() + 1);
             String token = TOKENS[random.nextInt(TOKENS.length)];
-            int how = random.nextInt(4);
-            if (how == 0 || tokens.isEmpty()) {
+            int how = random.nextInt(6);
+            if (how > 3) {
+                change(how == 4 ? "[0-9]+" : "hour|sun|wind|hinges|load|cell|who");
+            } else if (how == 0 || tokens.isEmpty()) {
                 tokens.add(at, token);
             } else {
                 at = Math.min(at, tokens.size() - 1);
@@ -65,6 +67,19 @@ final class Texts {
             }
         }
         return joined();
+    }
+
+    /** Another number for a number, or a name of dries for a name. */
+    private void change(String which) {
+        for (int tries = 0; tries < 20 && !tokens.isEmpty(); tries++) {
+            int at = random.nextInt(tokens.size());
+            if (tokens.get(at).matches(which)) {
+                boolean digits = Character.isDigit(tokens.get(at).charAt(0));
+                tokens.set(at, digits ? new String[] {"0", "4", "5", "9", "10", "11", "12", "20", "21", "60", "61", "9999",
+                    "10000"}[random.nextInt(13)] : DRIES_NAMES[random.nextInt(3)]);
+                return;
+            }
+        }
     }
 
     /** Many clauses, or many that are open: around the limits of both. */
