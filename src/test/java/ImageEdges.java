@@ -35,7 +35,8 @@ final class ImageEdges extends Edges {
         x.start();
         x.hour(33);
         x.odds(0, 3);
-        x.beat(0, 1, 9);
+        x.beat(0, 1, 1);
+        x.beat(1, 0, 1);
         x.strength(0, 20);
         x.see(2, 2);
         x.said(NONE, 0);
@@ -138,8 +139,10 @@ final class ImageEdges extends Edges {
         }
         x.image();
         due("about(4)", x.about(4), 30);
-        for (int i = 0; i < 30; i++) {
+        int[] before = new int[30];
+        for (int left = 29; left >= 0; left--) {
             x.undo();
+            before[left] = x.is(0) * 100 + x.of(0, 1);
         }
         x.hour(60);
         due("back()", x.back(), 28);
@@ -148,12 +151,61 @@ final class ImageEdges extends Edges {
         due("book(29, 0)", x.book(29, 0), 27);
         for (int left = 29; left >= 0; left--) {
             due("undo()", x.undo(), left);
+            due("HOUR and CELL", x.is(0) * 100 + x.of(0, 1), before[left]);
         }
         due("undo()", x.undo(), NONE);
         due("is(0)", x.is(0), 4);
         due("book(NONE, 0)", x.book(NONE, 0), 5);
         due("back()", x.back(), 28);
         due("about(4)", x.about(4), 30);
+    }
+
+    @Sentence(promise = 48, says = "BACK: all is so again.")
+    void whatWasSeenAndSaidIsSoAgain() {
+        ClothesHorses x = with(1, 1);
+        Checks.text(x, "dries 5;");
+        x.piece(0, 1, 9);
+        x.piece(0, 1, 9);
+        x.peg(0, 0);
+        x.see(1, 2);
+        x.see(3, 6);
+        x.said(0, 5);
+        x.said(1, 7);
+        x.image();
+        for (int change = 0; change < 4; change++) {
+            // Other HOURS, other CELLS, other PIECES, other dries in their places.
+            x.see(NONE, 0);
+            x.said(NONE, 0);
+            x.see(change == 0 ? 2 : 1, change == 1 ? 3 : 2);
+            x.see(change == 0 ? 1 : 3, change == 1 ? 5 : 6);
+            x.said(change == 2 ? 1 : 0, change == 3 ? 6 : 5);
+            x.said(change == 2 ? 0 : 1, 7);
+            due("change " + change + ": nobbled(0, 1)", x.nobbled(0, 1), change < 2 ? 0 : 1);
+            due("change " + change + ": whose()", x.whose(), change < 2 ? 1 : 0);
+            x.back();
+            due("change " + change + ", and back: nobbled(0, 1)", x.nobbled(0, 1), 1);
+            due("change " + change + ", and back: whose()", x.whose(), 1);
+        }
+    }
+
+    @Sentence(promise = 48, says = "BACK: all is so again.")
+    void whoBeatWhomIsSoAgain() {
+        ClothesHorses x = with(1, 1, 1, 1, 1);
+        for (int horse = 0; horse < 4; horse++) {
+            x.beat(horse + 1, horse, 1);
+        }
+        due("ranking(0)", x.ranking(0), 4);
+        x.image();
+        for (int horse = 0; horse < 5; horse++) {
+            for (int other = 0; other < 5; other++) {
+                x.beat(horse, other, horse < other ? 9 : 0);
+            }
+            x.back();
+            for (int i = 0; i < 5; i++) {
+                due("ranking(" + i + ")", x.ranking(i), 4 - i);
+            }
+            due("ranking(NONE)", x.ranking(NONE), 0);
+        }
     }
 
     @Sentence(promise = 48, says = "BACK: all is so again.")

@@ -129,6 +129,13 @@ final class LawEdges extends Edges {
         either("1<2 or 1<2 and 2<1", true);
         either("not 1<2 or 1<2", true);
         either("not 1<2 and 2<1", false);
+        String[] asked = {"1<2", "2<1", "2<=2", "3<=2", "2>1", "1>2", "2>=2", "1>=2", "2=2", "1=2", "1#2", "2#2", "not 2<1", "not 1<2"};
+        for (int left = 0; left < asked.length; left++) {
+            for (int right = 0; right < asked.length; right++) {
+                either(asked[left] + " and " + asked[right], left % 2 == 0 && right % 2 == 0);
+                either(asked[left] + " or " + asked[right], left % 2 == 0 || right % 2 == 0);
+            }
+        }
         paces("if 1<2 then 2 else 1/0 end", 2);
         paces("if 1>2 then 9999*9999 else 2 end", 2);
         paces("1+if 1<2 then 0 else 5 end*9+1", 2);
@@ -223,6 +230,10 @@ final class LawEdges extends Edges {
         }
         due("sheds -1", ruled("sheds -1;", 1).of(0, 6), 0);
         due("sheds -9999*9999", ruled("sheds -9999*9999;", 1).of(0, 6), 0);
+        ClothesHorses x = ruled("sheds who+hinges;", 1, 2, 3, 4, 5);
+        for (int horse = 4; horse >= 0; horse--) {
+            due("sheds who+hinges of " + horse, x.of(horse, 6), 2 * horse + 1);
+        }
         due("without a text", with(1).of(0, 6), 1);
         due("without the law", ruled("paces 0;dries 5;", 1).of(0, 6), 1);
     }

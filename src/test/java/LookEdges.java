@@ -157,6 +157,27 @@ final class LookEdges extends Edges {
         }
     }
 
+    @Sentence(promise = 21, says = "BOOK (the latest 30 that came in): HOUR, HORSE, RANK.")
+    void theEldestIsForgottenWhole() {
+        // HORSES 2, 1 and 0 come in by turns, 3 a race; of 33 the first race is forgotten, of 31 its first HORSE.
+        ClothesHorses x = ruled("paces 1+who;", 1, 1, 1);
+        for (int race = 0; race < 10; race++) {
+            x.hour(11);
+            x.start();
+        }
+        for (int forgotten = 0; forgotten <= 3; forgotten++) {
+            due("book(NONE, 0)", x.book(NONE, 0), 30);
+            for (int i = 0; i < 30; i++) {
+                int came = i + forgotten;
+                due("book(" + i + ", 0)", x.book(i, 0), came / 3 * 11 + of(3, 5, 10)[came % 3]);
+                due("book(" + i + ", 1)", x.book(i, 1), 2 - came % 3);
+                due("book(" + i + ", 2)", x.book(i, 2), came % 3 + 1);
+            }
+            due("is(0)", x.is(0), 110 + of(0, 4, 6, 11)[forgotten]);
+            x.hour(of(4, 2, 5, 1)[forgotten]);
+        }
+    }
+
     @Sentence(promise = 21, says = "-2 if there is none such, and for others.")
     void notInTheBook() {
         ClothesHorses none = with(9);
@@ -176,6 +197,16 @@ final class LookEdges extends Edges {
         due("in CELL 9", x.lead(), 3);
         x.hour(1);
         due("HORSE 3 is in", x.lead(), 2);
+    }
+
+    @Sentence(promise = 41, says = "THE LEADER: the HORSE in the greatest CELL (above 0), not in; of like ones the lowest; none.")
+    void aLeaderInTheFirstCellButOne() {
+        ClothesHorses x = ruled("paces if who=1 then 1 else 0 end;", 1, 1, 1);
+        x.hour(1);
+        due("CELL 1", x.lead(), 1);
+        ClothesHorses y = ruled("paces 3-who;", 1, 1, 1, 1);
+        y.hour(1);
+        due("CELLS 3, 2, 1 and 0", y.lead(), 0);
     }
 
     @Sentence(promise = 41, says = "NONE: none.")

@@ -332,6 +332,19 @@ final class RaceEdges extends Edges {
     }
 
     @Sentence(promise = 13, says = "then, if there is one on it, a draw by 10 (as SUN): below sheds its lowest PIECE is on the grass, and it stops for this HOUR;")
+    void shedsAreAskedBehindDrying() {
+        // The draw is 2: below a load of 3, not below one of 2.
+        for (int weight = 1; weight <= 4; weight++) {
+            ClothesHorses x = ruled("sheds load;dries wet;paces 1;", 1);
+            x.piece(0, weight, 9);
+            x.peg(0, 0);
+            x.hour(1);
+            due("load " + weight, x.of(0, 3), weight <= 2 ? 1 : 0);
+            due("of(0, 1)", x.of(0, 1), weight <= 2 ? 1 : 0);
+        }
+    }
+
+    @Sentence(promise = 13, says = "then, if there is one on it, a draw by 10 (as SUN): below sheds its lowest PIECE is on the grass, and it stops for this HOUR;")
     void whoShedsTheLastPieceStopsToo() {
         ClothesHorses x = steady(1);
         x.piece(0, 1, 1);
@@ -354,6 +367,21 @@ final class RaceEdges extends Edges {
                 due("hour(1)", x.hour(1), 0);
                 due("of(0, 1)", x.of(0, 1), Math.min(11, hours * paces));
             }
+        }
+    }
+
+    @Sentence(promise = 13, says = "else its CELL is more by paces (11 at most), and if it is 11 then and all PIECES on it are dry (WET 0), it is in: written down.")
+    void byTheWeightThatIsLeft() {
+        for (int wet = 9; wet <= 14; wet++) {
+            ClothesHorses x = ruled("dries 2;sheds 0;", 5, 6);
+            x.piece(0, 9, wet);
+            x.piece(0, 9, wet);
+            x.peg(0, 0);
+            x.peg(1, 1);
+            x.hour(1);
+            // Below 20 when it is 12 and dries to 10.
+            due("WET " + wet + ": of(0, 1)", x.of(0, 1), wet <= 12 ? 2 : 1);
+            due("WET " + wet + ": of(1, 1)", x.of(1, 1), wet <= 12 ? 3 : 2);
         }
     }
 
@@ -704,8 +732,49 @@ final class RaceEdges extends Edges {
         x.undo();
         due("the eldest is there again", x.book(0, 0), 3);
         due("book(29, 0)", x.book(29, 0), 23);
+        for (int i = 0; i < 30; i++) {
+            due("book(" + i + ", 1)", x.book(i, 1), i % 5);
+            due("book(" + i + ", 2)", x.book(i, 2), i % 5 + 1);
+        }
         due("is(3)", x.is(3), 0);
         due("of(0, 1)", x.of(0, 1), 9);
+    }
+
+    @Sentence(promise = 16, says = "STEPS: PEGGED, WETTED, STARTED, an HOUR (each), YEARS (see V): the latest 30 can be taken back, the latest first (CELLS, RANKS, WET, where PIECES are, SUN, HOUR, X, BOOK are as ahead of it; PIECES told since are as told; WIND stays).")
+    void aFullBookOfWhichOneWasForgottenComesBack() {
+        // HORSES 2, 1 and 0 come in by turns; the 31st is HORSE 2 behind four HOURS.
+        ClothesHorses x = ruled("paces 1+who;", 1, 1, 1);
+        for (int race = 0; race < 10; race++) {
+            x.hour(11);
+            x.start();
+        }
+        due("hour(4)", x.hour(4), 1);
+        due("the eldest is HORSE 1", x.book(0, 1) * 10 + x.book(0, 2), 12);
+        x.undo();
+        for (int i = 0; i < 30; i++) {
+            due("book(" + i + ", 1)", x.book(i, 1), 2 - i % 3);
+            due("book(" + i + ", 2)", x.book(i, 2), i % 3 + 1);
+        }
+    }
+
+    @Sentence(promise = 16, says = "STEPS: PEGGED, WETTED, STARTED, an HOUR (each), YEARS (see V): the latest 30 can be taken back, the latest first (CELLS, RANKS, WET, where PIECES are, SUN, HOUR, X, BOOK are as ahead of it; PIECES told since are as told; WIND stays).")
+    void aBookThatIsNotFullComesBack() {
+        // HORSES 1 and 0 come in, then 1 alone: 1/1, 0/2, 1/1.
+        ClothesHorses x = with(1, 9);
+        x.hour(6);
+        x.start();
+        x.hour(4);
+        due("book(NONE, 0)", x.book(NONE, 0), 3);
+        for (int left = 2; left >= 0; left--) {
+            x.undo();
+            for (int back = 0; x.is(0) != of(3, 5, 9)[left] && back < 9; back++) {
+                x.undo();
+            }
+            due("book(NONE, 0)", x.book(NONE, 0), left);
+        }
+        due("run anew: hour(3)", x.hour(3), 2);
+        due("book(0, 1)", x.book(0, 1) * 10 + x.book(0, 2), 11);
+        due("book(1, 1)", x.book(1, 1) * 10 + x.book(1, 2), 2);
     }
 
     @Sentence(promise = 16, says = "STEPS: PEGGED, WETTED, STARTED, an HOUR (each), YEARS (see V): the latest 30 can be taken back, the latest first (CELLS, RANKS, WET, where PIECES are, SUN, HOUR, X, BOOK are as ahead of it; PIECES told since are as told; WIND stays).")

@@ -38,6 +38,11 @@ final class ScriptEdges extends Edges {
         Checks.text(x, "start");
         due("one with a FAULT isn't there", x.played(1), OTHERS);
         due("played(0)", x.played(0), NONE);
+        for (int i = 1; i < 4; i++) {
+            Checks.text(x, "start;");
+        }
+        each("of four played", OTHERS, a -> x.played(a[0]), ones(4, 5, -1, MIN, MAX));
+        due("played(3)", x.played(3), NONE);
     }
 
     @Sentence(promise = 14, says = "PLAYED by a TEXT: its CLAUSES but laws, in their order, as by hand; one that can't be ends it (of so many HOURS those that can pass do): its number among all CLAUSES (from 0); what was done stays.")

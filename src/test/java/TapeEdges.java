@@ -192,6 +192,14 @@ final class TapeEdges extends Edges {
         due("a FAULT at the very end", Checks.text(x, most + "   "), NONE);
         due("fault(1)", x.fault(1), 300);
         due("text()", Checks.text(x, most + "  ;"), 3);
+        fault(";".repeat(300), 1, 0);
+        fault("(".repeat(300), 1, 0);
+        fault("1 ".repeat(150), 1, 0);
+        fault("start;".repeat(24) + "+".repeat(156), 1, 144);
+        fault("a".repeat(300), 1, 0);
+        fault("9".repeat(300), 1, 0);
+        fault(" ".repeat(299) + "<", 1, 299);
+        sound(" ".repeat(300));
     }
 
     @Sentence(promise = 7, says = "TOKENS, blanks (32, 10) aside: letters a .. z, A .. Z one behind the other (one TOKEN), digits likewise (NUMBERS, 0 .. 9999), <= >= < > = # + - * / ( ) ; (the longest).")

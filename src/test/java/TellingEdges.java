@@ -186,6 +186,11 @@ final class TellingEdges extends Edges {
         rule(x, "paces 2;");
         refused(x, "by", 0, a -> bit(x.by(a[0])), ones(1, 3, 4, -2, MIN, MAX));
         due("the same rules", x.of(0, 5), 2);
+        for (int i = 1; i < 4; i++) {
+            Checks.text(x, "paces 1;");
+        }
+        refused(x, "of four by", 0, a -> bit(x.by(a[0])), ones(4, 5, -2, MIN, MAX));
+        due("the same rules", x.of(0, 5), 2);
     }
 
     @Sentence(promise = 9, says = "False for others.")
