@@ -29,6 +29,26 @@ final class ScriptEdges extends Edges {
         due("about(0)", x.about(0), 2);
     }
 
+    @Sentence(promise = 14, says = "PLAYED by a TEXT: NONE: all is done; else the number of the CLAUSE that can't be.")
+    void allNumbersOfTheLastClause() {
+        ClothesHorses x = with(1, 1);
+        plays(x, "piece 3 weight 9 wet 20;", NONE);
+        plays(x, "start;".repeat(23) + "piece 2 weight 8 wet 19;", NONE);
+        for (int what = 0; what <= 2; what++) {
+            due("ofPiece(0, " + what + ")", x.ofPiece(0, what), of(3, 9, 20)[what]);
+            due("ofPiece(1, " + what + ")", x.ofPiece(1, what), of(2, 8, 19)[what]);
+        }
+        plays(x, "start;".repeat(23) + "sock 1 on 1;", NONE);
+        due("ofPiece(1, 2)", x.ofPiece(1, 2), 20);
+        plays(x, "start;".repeat(23) + "peg 1 to 1;", NONE);
+        due("ofPiece(1, 3)", x.ofPiece(1, 3), 1);
+        x.back();
+        plays(x, "horse 1;".repeat(5) + "start;".repeat(18) + "wind 9 at 11;", NONE);
+        due("windAt(11)", x.windAt(11), 9);
+        plays(x, "start;".repeat(23) + "hour 60;", NONE);
+        due("is(0)", x.is(0), 60);
+    }
+
     @Sentence(promise = 14, says = "-2 for others.")
     void otherTexts() {
         ClothesHorses x = with(1);
